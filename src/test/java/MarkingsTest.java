@@ -16,6 +16,8 @@ public final class MarkingsTest {
         ways();
         lowestWay();
         followsChanges();
+        askedFirst();
+        askedInTurn();
         wrongArguments();
         due.end();
     }
@@ -237,6 +239,39 @@ public final class MarkingsTest {
         due.answers("behind a new place", 8, () -> hall.most(1));
         hall.log(0);
         due.answers("behind a log", 3, () -> hall.graph(0));
+    }
+
+    /** Each question finds THE GRAPH by itself. */
+    private static void askedFirst() {
+        due.answers("graph(3) first", 1, () -> Nets.ring(3).graph(3));
+        due.answers("marking(2, 2) first", 1, () -> Nets.ring(3).marking(2, 2));
+        due.answers("most(2) first", 1, () -> Nets.ring(3).most(2));
+        due.answers("level(2) first", 2, () -> Nets.ring(3).level(2));
+        due.answers("way(2, 1) first", 2, () -> Nets.ring(3).way(2, 1));
+        due.answers("step(2, 1, 1) first", 1, () -> Nets.ring(3).step(2, 1, 1));
+        MarkingHall hall = Nets.ring(3);
+        for (int turn = 0; turn < 6; turn++) {
+            int now = turn % 3;
+            due.answers("marking(0) of turn " + turn, 1, () -> hall.marking(0, now));
+            hall.fire(now);
+        }
+    }
+
+    private static void askedInTurn() {
+        MarkingHall hall = Nets.with(3, 1, 0, 0);
+        Nets.moves(hall, 0, 0, 1, 1, 1);
+        Nets.moves(hall, 1, 1, 1, 2, 1);
+        hall.arc(2, 0, Nets.TEST, 3);
+        for (int turn = 0; turn < 2; turn++) {
+            due.answers("level(1)", 1, () -> hall.level(1));
+            due.answers("level(2) behind it", 0, () -> hall.level(2));
+            due.answers("graph(3) behind it", 0, () -> hall.graph(3));
+            due.answers("level(0) behind it", 1, () -> hall.level(0));
+        }
+        hall.arc(1, 1, Nets.TAKE, 0);
+        hall.arc(1, 2, Nets.GIVE, 0);
+        due.answers("a firing that changes nothing is live", 2, () -> hall.level(1));
+        due.answers("but THE GRAPH is not HOME", 0, () -> hall.graph(3));
     }
 
     private static void wrongArguments() {

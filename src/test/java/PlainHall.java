@@ -59,9 +59,9 @@ final class PlainHall {
         return now.get(place);
     }
 
-    int can(int firing) {
+    boolean can(int firing) {
         checkFiring(firing);
-        return behind(now, firing) != null ? 1 : 0;
+        return behind(now, firing) != null;
     }
 
     int fire(int firing) {
@@ -167,20 +167,20 @@ final class PlainHall {
         return rounds.get(round)[firing];
     }
 
-    int keeps() {
-        if (isTooGreat()) return 1;
+    boolean keeps() {
+        if (isTooGreat()) return true;
         for (int[] row : leastRows()) {
             int[] sums = new int[markings.size()];
             for (int m = 0; m < sums.length; m++) {
                 for (int p = 0; p < now.size(); p++) sums[m] += row[p] * markings.get(m).get(p);
-                if (sums[m] != sums[0]) return 0;
+                if (sums[m] != sums[0]) return false;
             }
         }
         for (int p = 0; p < now.size(); p++) {
             int bound = mostByRows(p);
-            if (bound != NONE && most(p) > bound) return 0;
+            if (bound != NONE && most(p) > bound) return false;
         }
-        return 1;
+        return true;
     }
 
     int siphons() {
@@ -200,14 +200,14 @@ final class PlainHall {
         return greatestTrap(set);
     }
 
-    int isPromising() {
+    boolean isPromising() {
         for (int siphon : leastSiphons()) {
             int trap = greatestTrap(siphon);
             int tokens = 0;
             for (int p = 0; p < now.size(); p++) if ((trap & 1 << p) != 0) tokens += now.get(p);
-            if (tokens == 0) return 0;
+            if (tokens == 0) return false;
         }
-        return 1;
+        return true;
     }
 
     int log(int firing) {

@@ -51,6 +51,9 @@ public final class RowsRoundsTest {
 
     private static void ringOfRows() {
         due.is("rows of a ring", "111111", rows(Nets.ring(6), 6));
+        due.answers("row(0, 5) first", 1, () -> Nets.ring(6).row(0, 5));
+        due.answers("mostByRows(5) first", 1, () -> Nets.ring(6).mostByRows(5));
+        due.answers("round(0, 5) first", 1, () -> Nets.ring(6).round(0, 5));
         MarkingHall last = Nets.with(8, 1, 0);
         Nets.moves(last, 7, 0, 1, 1, 1);
         due.is("only the last firing has arcs", "11", rows(last, 2));
@@ -97,6 +100,9 @@ public final class RowsRoundsTest {
         hall.arc(1, 2, Nets.EMPTY, 0);
         hall.arc(1, 0, Nets.EMPTY, 0);
         due.is("no longer emptied", "011 100", rows(hall, 3));
+        hall.arc(0, 0, Nets.EMPTY, 1);
+        due.is("emptied by the first firing", "011", rows(hall, 3));
+        due.answers("mostByRows(0) of an emptied place", NONE, () -> hall.mostByRows(0));
     }
 
     private static void rowsUpTo3() {

@@ -30,6 +30,10 @@ public final class SiphonsTrapsTest {
 
     private static void siphons() {
         due.is("of a ring", "63", siphons(Nets.ring(6)));
+        due.answers("siphon(0) first", 63, () -> Nets.ring(6).siphon(0));
+        due.answers("trap(63) first", 63, () -> Nets.ring(6).trap(63));
+        due.answers("isPromising() first", false, () -> Nets.with(0, 0).isPromising());
+        due.answers("siphons() first", 1, () -> Nets.ring(6).siphons());
         MarkingHall hall = Nets.with(3, 0, 0, 0);
         Nets.moves(hall, 0, 0, 1, 1, 1);
         due.is("nothing gives to 0 and 2", "1 4", siphons(hall));
