@@ -3,9 +3,9 @@ import java.util.function.IntSupplier;
 
 /** Compares answers with those that are due, and ends the test with 1 if one was wrong. */
 final class Due {
-    private static final Class<IndexOutOfBoundsException> NO_SUCH = IndexOutOfBoundsException.class;
-    private static final Class<IllegalArgumentException> OUT_OF_RANGE = IllegalArgumentException.class;
-    private static final Class<IllegalStateException> NOT_NOW = IllegalStateException.class;
+    static final String NO_SUCH = "java.lang.IndexOutOfBoundsException";
+    static final String OUT_OF_RANGE = "java.lang.IllegalArgumentException";
+    static final String NOT_NOW = "java.lang.IllegalStateException";
 
     private int right;
     private int wrong;
@@ -37,15 +37,15 @@ final class Due {
     }
 
     void noSuch(String call, IntSupplier body) {
-        is(call, NO_SUCH.getName(), outcome(body));
+        is(call, NO_SUCH, outcome(body));
     }
 
     void outOfRange(String call, IntSupplier body) {
-        is(call, OUT_OF_RANGE.getName(), outcome(body));
+        is(call, OUT_OF_RANGE, outcome(body));
     }
 
     void notNow(String call, IntSupplier body) {
-        is(call, NOT_NOW.getName(), outcome(body));
+        is(call, NOT_NOW, outcome(body));
     }
 
     void end() {

@@ -1,4 +1,4 @@
-/** Nets that several tests use, and a picture of all that can be asked of one. */
+/** Nets that several tests use, and looks at all that can be asked of one. */
 final class Nets {
     static final int TAKE = MarkingHall.TAKE;
     static final int GIVE = MarkingHall.GIVE;
@@ -46,37 +46,74 @@ final class Nets {
         return hall;
     }
 
-    /** All that can be asked of a small net; what it does last changes the net, so it is asked once. */
-    static String picture(MarkingHall hall, int places, int firings) {
+    /**
+     * What a net tells of itself, without a change: some 60 calls for three
+     * places and firings, below 200 for the most of them.
+     */
+    static String look(MarkingHall hall, int places, int firings) {
         StringBuilder all = new StringBuilder();
         for (int what = 0; what <= 3; what++) {
             all.append(" graph ").append(hall.graph(what));
         }
         for (int p = 0; p < places; p++) {
             all.append(" place ").append(hall.tokens(p)).append(' ').append(hall.most(p));
-            all.append(' ').append(hall.mostByRows(p)).append(' ').append(hall.marking(1, p));
-            all.append(' ').append(hall.way(p, 1)).append(' ').append(hall.step(p, 1, 0));
+            all.append(' ').append(hall.mostByRows(p)).append(' ').append(hall.marking(0, p));
+            all.append(' ').append(hall.marking(1, p)).append(' ').append(hall.way(p, 1));
+            all.append(' ').append(hall.step(p, 1, 0));
         }
         for (int f = 0; f < firings; f++) {
             all.append(" firing ").append(hall.can(f)).append(' ').append(hall.level(f));
         }
-        for (int r = 0; r < hall.rows(); r++) {
-            for (int p = 0; p < places; p++) {
-                all.append(" row ").append(hall.row(r, p));
-            }
+        all.append(" rows ").append(rows(hall, places)).append(" rounds ").append(rounds(hall, firings));
+        all.append(" siphons ").append(siphons(hall));
+        for (int p = 0; p <= places; p++) {
+            all.append(" trap ").append(hall.trap((1 << p) - 1));
         }
-        for (int r = 0; r < hall.rounds(); r++) {
-            for (int f = 0; f < firings; f++) {
-                all.append(" round ").append(hall.round(r, f));
-            }
-        }
-        for (int i = 0; i < hall.siphons(); i++) {
-            all.append(" siphon ").append(hall.siphon(i));
-        }
-        all.append(" trap ").append(hall.trap((1 << places) - 1));
         all.append(' ').append(hall.isPromising()).append(' ').append(hall.keeps());
-        all.append(" log ").append(hall.goes()).append(' ').append(hall.cost());
-        all.append(' ').append(hall.blank());
+        return all.append(" log ").append(hall.goes()).append(' ').append(hall.cost()).toString();
+    }
+
+    /** All LEAST ROWS, one behind the other, their numbers as digits. */
+    static String rows(MarkingHall hall, int places) {
+        StringBuilder all = new StringBuilder();
+        int count = hall.rows();
+        for (int r = 0; r < count; r++) {
+            for (int p = 0; p < places; p++) {
+                all.append(hall.row(r, p));
+            }
+            all.append(' ');
+        }
+        return all.toString().trim();
+    }
+
+    static String rounds(MarkingHall hall, int firings) {
+        StringBuilder all = new StringBuilder();
+        int count = hall.rounds();
+        for (int r = 0; r < count; r++) {
+            for (int f = 0; f < firings; f++) {
+                all.append(hall.round(r, f));
+            }
+            all.append(' ');
+        }
+        return all.toString().trim();
+    }
+
+    static String siphons(MarkingHall hall) {
+        StringBuilder all = new StringBuilder();
+        int count = hall.siphons();
+        for (int i = 0; i < count; i++) {
+            all.append(hall.siphon(i)).append(' ');
+        }
+        return all.toString().trim();
+    }
+
+    /**
+     * What a look does not show, asked for the last time, as it changes the
+     * net: how long THE LOG is, all weights, how many firings were done, how
+     * many places and firings there are.
+     */
+    static String lastLook(MarkingHall hall, int places, int firings) {
+        StringBuilder all = new StringBuilder(" logged ").append(hall.blank());
         for (int f = 0; f < firings; f++) {
             for (int p = 0; p < places; p++) {
                 for (int kind = TAKE; kind <= EMPTY; kind++) {

@@ -19,50 +19,28 @@ public final class RowsRoundsTest {
         due.end();
     }
 
-    /** All LEAST ROWS, one behind the other, their numbers as digits. */
-    private static String rows(MarkingHall hall, int places) {
-        StringBuilder all = new StringBuilder();
-        for (int r = 0; r < hall.rows(); r++) {
-            for (int p = 0; p < places; p++) {
-                all.append(hall.row(r, p));
-            }
-            all.append(' ');
-        }
-        return all.toString().trim();
-    }
-
-    private static String rounds(MarkingHall hall, int firings) {
-        StringBuilder all = new StringBuilder();
-        for (int r = 0; r < hall.rounds(); r++) {
-            for (int f = 0; f < firings; f++) {
-                all.append(hall.round(r, f));
-            }
-            all.append(' ');
-        }
-        return all.toString().trim();
-    }
-
     private static void rowsWithoutFirings() {
-        due.is("rows of nothing", "", rows(new MarkingHall(), 0));
-        due.is("rows without firings", "001 010 100", rows(Nets.with(0, 1, 2, 3), 3));
-        due.is("six of them", "000001 000010 000100 001000 010000 100000", rows(Nets.with(0, 1, 2, 3, 4, 5, 6), 6));
-        due.is("rows without arcs", "01 10", rows(Nets.with(8, 1, 1), 2));
+        due.is("rows of nothing", "", Nets.rows(new MarkingHall(), 0));
+        due.is("rows without firings", "001 010 100", Nets.rows(Nets.with(0, 1, 2, 3), 3));
+        due.is("six of them", "000001 000010 000100 001000 010000 100000",
+            Nets.rows(Nets.with(0, 1, 2, 3, 4, 5, 6), 6));
+        due.is("rows without arcs", "01 10", Nets.rows(Nets.with(8, 1, 1), 2));
     }
 
     private static void ringOfRows() {
-        due.is("rows of a ring", "111111", rows(Nets.ring(6), 6));
+        due.is("rows of a ring", "111111", Nets.rows(Nets.ring(6), 6));
         due.answers("row(0, 5) first", 1, () -> Nets.ring(6).row(0, 5));
         due.answers("mostByRows(5) first", 1, () -> Nets.ring(6).mostByRows(5));
         due.answers("round(0, 5) first", 1, () -> Nets.ring(6).round(0, 5));
         MarkingHall last = Nets.with(8, 1, 0);
         Nets.moves(last, 7, 0, 1, 1, 1);
-        due.is("only the last firing has arcs", "11", rows(last, 2));
+        due.is("only the last firing has arcs", "11", Nets.rows(last, 2));
         last.arc(7, 1, Nets.GIVE, 2);
-        due.is("behind another weight", "21", rows(last, 2));
+        due.is("behind another weight", "21", Nets.rows(last, 2));
         last.place(3);
-        due.is("behind a new place", "001 210", rows(last, 3));
+        due.is("behind a new place", "001 210", Nets.rows(last, 3));
         last.arc(0, 2, Nets.TAKE, 1);
-        due.is("behind another arc", "210", rows(last, 3));
+        due.is("behind another arc", "210", Nets.rows(last, 3));
     }
 
     private static void weightedRows() {
@@ -70,12 +48,12 @@ public final class RowsRoundsTest {
         Nets.moves(hall, 0, 0, 2, 1, 3);
         hall.arc(0, 2, Nets.TAKE, 1);
         // 2a + c = 3b
-        due.is("2a + c = 3b", "013 111 320", rows(hall, 3));
+        due.is("2a + c = 3b", "013 111 320", Nets.rows(hall, 3));
         hall.arc(0, 0, Nets.TEST, 3);
         hall.arc(0, 1, Nets.HOLD, 3);
-        due.is("TEST and HOLD are nothing to rows", "013 111 320", rows(hall, 3));
+        due.is("TEST and HOLD are nothing to rows", "013 111 320", Nets.rows(hall, 3));
         hall.arc(0, 2, Nets.GIVE, 1);
-        due.is("GIVE less TAKE", "001 320", rows(hall, 3));
+        due.is("GIVE less TAKE", "001 320", Nets.rows(hall, 3));
     }
 
     private static void leastRowsAlone() {
@@ -83,34 +61,34 @@ public final class RowsRoundsTest {
         Nets.moves(hall, 0, 0, 1, 2, 1);
         Nets.moves(hall, 0, 1, 1, 3, 1);
         // a + b = c + d
-        due.is("a + b = c + d", "0101 0110 1001 1010", rows(hall, 4));
+        due.is("a + b = c + d", "0101 0110 1001 1010", Nets.rows(hall, 4));
         hall.arc(0, 3, Nets.GIVE, 2);
         // a + b = c + 2d
-        due.is("a + b = c + 2d", "0110 0201 1010 1101 2001", rows(hall, 4));
+        due.is("a + b = c + 2d", "0110 0201 1010 1101 2001", Nets.rows(hall, 4));
     }
 
     private static void rowsAndEmpty() {
         MarkingHall hall = Nets.with(2, 0, 1, 1);
         Nets.moves(hall, 0, 1, 1, 2, 1);
         hall.arc(1, 0, Nets.EMPTY, 1);
-        due.is("an emptied place has 0", "011", rows(hall, 3));
+        due.is("an emptied place has 0", "011", Nets.rows(hall, 3));
         hall.arc(1, 2, Nets.TEST, 3);
         hall.arc(1, 2, Nets.EMPTY, 1);
-        due.is("so one that cannot be emptied", "", rows(hall, 3));
+        due.is("so one that cannot be emptied", "", Nets.rows(hall, 3));
         hall.arc(1, 2, Nets.EMPTY, 0);
         hall.arc(1, 0, Nets.EMPTY, 0);
-        due.is("no longer emptied", "011 100", rows(hall, 3));
+        due.is("no longer emptied", "011 100", Nets.rows(hall, 3));
         hall.arc(0, 0, Nets.EMPTY, 1);
-        due.is("emptied by the first firing", "011", rows(hall, 3));
+        due.is("emptied by the first firing", "011", Nets.rows(hall, 3));
         due.answers("mostByRows(0) of an emptied place", NONE, () -> hall.mostByRows(0));
     }
 
     private static void rowsUpTo3() {
         MarkingHall hall = Nets.with(2, 0, 0, 0);
         Nets.moves(hall, 0, 0, 1, 1, 3);
-        due.is("a = 3b", "001 310", rows(hall, 3));
+        due.is("a = 3b", "001 310", Nets.rows(hall, 3));
         Nets.moves(hall, 1, 1, 1, 2, 2);
-        due.is("b = 2c, a = 6c is too many", "", rows(hall, 3));
+        due.is("b = 2c, a = 6c is too many", "", Nets.rows(hall, 3));
     }
 
     private static void mostByRows() {
@@ -136,50 +114,50 @@ public final class RowsRoundsTest {
     }
 
     private static void rounds() {
-        due.is("rounds of nothing", "", rounds(new MarkingHall(), 0));
-        due.is("without places", "001 010 100", rounds(Nets.with(3), 3));
-        due.is("of a ring", "111111", rounds(Nets.ring(6), 6));
+        due.is("rounds of nothing", "", Nets.rounds(new MarkingHall(), 0));
+        due.is("without places", "001 010 100", Nets.rounds(Nets.with(3), 3));
+        due.is("of a ring", "111111", Nets.rounds(Nets.ring(6), 6));
         MarkingHall hall = Nets.with(4, 0, 0);
         Nets.moves(hall, 0, 0, 1, 1, 1);
         Nets.moves(hall, 1, 1, 1, 0, 1);
         Nets.moves(hall, 2, 1, 2, 0, 2);
-        due.is("two ways back and one idle", "0001 1100 2010", rounds(hall, 4));
+        due.is("two ways back and one idle", "0001 1100 2010", Nets.rounds(hall, 4));
         hall.arc(3, 1, Nets.TAKE, 1);
         hall.arc(3, 1, Nets.GIVE, 1);
-        due.is("GIVE less TAKE", "0001 1100 2010", rounds(hall, 4));
+        due.is("GIVE less TAKE", "0001 1100 2010", Nets.rounds(hall, 4));
         hall.arc(3, 0, Nets.TEST, 2);
-        due.is("TEST is nothing to rounds", "0001 1100 2010", rounds(hall, 4));
+        due.is("TEST is nothing to rounds", "0001 1100 2010", Nets.rounds(hall, 4));
         hall.arc(3, 1, Nets.GIVE, 2);
-        due.is("no more idle", "1100 2010", rounds(hall, 4));
+        due.is("no more idle", "1100 2010", Nets.rounds(hall, 4));
         hall.place(1);
         hall.arc(1, 2, Nets.TAKE, 1);
-        due.is("all places count", "2010", rounds(hall, 4));
+        due.is("all places count", "2010", Nets.rounds(hall, 4));
         due.is("with a firing more", "00001 20100", fiveRounds(hall));
     }
 
     private static String fiveRounds(MarkingHall hall) {
         hall.firing();
-        return rounds(hall, 5);
+        return Nets.rounds(hall, 5);
     }
 
     private static void roundsUpTo2() {
         MarkingHall hall = Nets.with(2, 0, 0);
         Nets.moves(hall, 0, 0, 1, 1, 1);
         Nets.moves(hall, 1, 1, 3, 0, 3);
-        due.is("3 times is too many", "", rounds(hall, 2));
+        due.is("3 times is too many", "", Nets.rounds(hall, 2));
         Nets.moves(hall, 1, 1, 2, 0, 2);
-        due.is("twice", "21", rounds(hall, 2));
+        due.is("twice", "21", Nets.rounds(hall, 2));
     }
 
     private static void roundsAndEmpty() {
         MarkingHall hall = Nets.with(3, 1, 0, 4);
         Nets.moves(hall, 0, 0, 1, 1, 1);
         Nets.moves(hall, 1, 1, 1, 0, 1);
-        due.is("before EMPTY", "001 110", rounds(hall, 3));
+        due.is("before EMPTY", "001 110", Nets.rounds(hall, 3));
         hall.arc(2, 2, Nets.EMPTY, 1);
-        due.is("one that empties has 0", "110", rounds(hall, 3));
+        due.is("one that empties has 0", "110", Nets.rounds(hall, 3));
         hall.arc(0, 2, Nets.EMPTY, 1);
-        due.is("so has one of a round", "", rounds(hall, 3));
+        due.is("so has one of a round", "", Nets.rounds(hall, 3));
     }
 
     private static void keeps() {

@@ -14,63 +14,55 @@ public final class SiphonsTrapsTest {
         due.end();
     }
 
-    private static String siphons(MarkingHall hall) {
-        StringBuilder all = new StringBuilder();
-        for (int i = 0; i < hall.siphons(); i++) {
-            all.append(hall.siphon(i)).append(' ');
-        }
-        return all.toString().trim();
-    }
-
     private static void siphonsWithoutFirings() {
-        due.is("of nothing", "", siphons(new MarkingHall()));
-        due.is("of firings alone", "", siphons(Nets.with(2)));
-        due.is("of places alone", "1 2 4 8 16 32", siphons(Nets.with(0, 1, 1, 1, 1, 1, 1)));
+        due.is("of nothing", "", Nets.siphons(new MarkingHall()));
+        due.is("of firings alone", "", Nets.siphons(Nets.with(2)));
+        due.is("of places alone", "1 2 4 8 16 32", Nets.siphons(Nets.with(0, 1, 1, 1, 1, 1, 1)));
     }
 
     private static void siphons() {
-        due.is("of a ring", "63", siphons(Nets.ring(6)));
+        due.is("of a ring", "63", Nets.siphons(Nets.ring(6)));
         due.answers("siphon(0) first", 63, () -> Nets.ring(6).siphon(0));
         due.answers("trap(63) first", 63, () -> Nets.ring(6).trap(63));
         due.answers("isPromising() first", false, () -> Nets.with(0, 0).isPromising());
         due.answers("siphons() first", 1, () -> Nets.ring(6).siphons());
         MarkingHall hall = Nets.with(3, 0, 0, 0);
         Nets.moves(hall, 0, 0, 1, 1, 1);
-        due.is("nothing gives to 0 and 2", "1 4", siphons(hall));
+        due.is("nothing gives to 0 and 2", "1 4", Nets.siphons(hall));
         Nets.moves(hall, 1, 2, 1, 0, 1);
-        due.is("all but 4 need another", "4", siphons(hall));
+        due.is("all but 4 need another", "4", Nets.siphons(hall));
         Nets.moves(hall, 2, 1, 1, 2, 1);
-        due.is("a ring now", "7", siphons(hall));
+        due.is("a ring now", "7", Nets.siphons(hall));
         hall.arc(1, 1, Nets.TAKE, 1);
-        due.is("a smaller ring", "3", siphons(hall));
+        due.is("a smaller ring", "3", Nets.siphons(hall));
         hall.arc(2, 2, Nets.TAKE, 2);
-        due.is("two of them", "3 4", siphons(hall));
+        due.is("two of them", "3 4", Nets.siphons(hall));
         hall.arc(0, 1, Nets.GIVE, 0);
-        due.is("one of one place", "2 4", siphons(hall));
+        due.is("one of one place", "2 4", Nets.siphons(hall));
         MarkingHall pairs = Nets.with(4, 0, 0, 0, 0);
         Nets.moves(pairs, 0, 0, 1, 3, 1);
         Nets.moves(pairs, 1, 3, 1, 0, 1);
         Nets.moves(pairs, 2, 1, 1, 2, 1);
         Nets.moves(pairs, 3, 2, 1, 1, 1);
-        due.is("by their sets as numbers", "6 9", siphons(pairs));
+        due.is("by their sets as numbers", "6 9", Nets.siphons(pairs));
     }
 
     private static void siphonsAndOtherArcs() {
         MarkingHall hall = Nets.with(1, 0, 0);
         Nets.moves(hall, 0, 0, 1, 0, 1);
-        due.is("it takes from itself", "1 2", siphons(hall));
+        due.is("it takes from itself", "1 2", Nets.siphons(hall));
         hall.arc(0, 0, Nets.TAKE, 0);
         hall.arc(0, 0, Nets.TEST, 1);
-        due.is("TEST is no TAKE", "2", siphons(hall));
+        due.is("TEST is no TAKE", "2", Nets.siphons(hall));
         hall.arc(0, 0, Nets.EMPTY, 1);
-        due.is("EMPTY is no TAKE", "2", siphons(hall));
+        due.is("EMPTY is no TAKE", "2", Nets.siphons(hall));
         hall.arc(0, 1, Nets.HOLD, 1);
-        due.is("HOLD is no TAKE", "2", siphons(hall));
+        due.is("HOLD is no TAKE", "2", Nets.siphons(hall));
         hall.arc(0, 1, Nets.TAKE, 3);
-        due.is("TAKE is", "2", siphons(hall));
+        due.is("TAKE is", "2", Nets.siphons(hall));
         hall.arc(0, 1, Nets.GIVE, 3);
         hall.arc(0, 0, Nets.TAKE, 1);
-        due.is("from one of them is enough", "1 2", siphons(hall));
+        due.is("from one of them is enough", "1 2", Nets.siphons(hall));
     }
 
     private static void traps() {
@@ -153,7 +145,7 @@ public final class SiphonsTrapsTest {
         hall.arc(0, 1, Nets.GIVE, 1);
         Nets.moves(hall, 1, 0, 1, 1, 1);
         hall.arc(2, 0, Nets.TAKE, 1);
-        due.is("its siphon", "3", siphons(hall));
+        due.is("its siphon", "3", Nets.siphons(hall));
         due.answers("its trap", 2, () -> hall.trap(3));
         due.answers("the token is beside the trap", false, hall::isPromising);
         hall.fire(1);
@@ -162,7 +154,7 @@ public final class SiphonsTrapsTest {
         Nets.moves(other, 0, 1, 1, 0, 1);
         Nets.moves(other, 1, 0, 1, 1, 1);
         Nets.moves(other, 2, 0, 1, 0, 0);
-        due.is("one siphon", "3", siphons(other));
+        due.is("one siphon", "3", Nets.siphons(other));
         due.answers("without a trap", 0, () -> other.trap(3));
         due.answers("has a token, but no trap", false, other::isPromising);
     }
@@ -178,7 +170,7 @@ public final class SiphonsTrapsTest {
         MarkingHall now = Nets.with(1, 1, 1);
         Nets.moves(now, 0, 0, 1, 1, 1);
         now.arc(0, 1, Nets.TAKE, 1);
-        due.is("both are siphons", "1 2", siphons(now));
+        due.is("both are siphons", "1 2", Nets.siphons(now));
         due.answers("one has no trap", false, now::isPromising);
     }
 
