@@ -247,10 +247,28 @@ public final class NetsEdgesTest {
         due.answers("2 and below 3", true, () -> both.can(0));
         both.arc(0, 0, Nets.TEST, 3);
         due.answers("3 and below 3", false, () -> both.can(0));
-        both.arc(0, 0, Nets.TEST, 0);
-        both.arc(0, 0, Nets.TAKE, 2);
-        due.answers("held back by what it has, not by what is left", 1, () -> both.fire(0));
-        due.answers("left", 0, () -> both.tokens(0));
+        belowHoldBeforeIt();
+    }
+
+    /** It is the TOKENS before the FIRING that are below HOLD, whatever is left, given or emptied by it. */
+    private static void belowHoldBeforeIt() {
+        for (int i = 0; i < 5 * 4 * 4 * 4; i++) {
+            int tokens = i % 5;
+            int hold = i / 5 % 4;
+            int take = i / 20 % 4;
+            int give = i / 80;
+            MarkingHall hall = Nets.with(1, tokens);
+            hall.arc(0, 0, Nets.HOLD, hold);
+            hall.arc(0, 0, Nets.TAKE, take);
+            hall.arc(0, 0, Nets.GIVE, give);
+            String title = "HOLD " + hold + ", TAKE " + take + ", GIVE " + give + " of " + tokens;
+            boolean can = tokens >= take && (hold == 0 || tokens < hold);
+            due.answers(title, can, () -> hall.can(0));
+            hall.arc(0, 0, Nets.EMPTY, 1);
+            due.answers(title + ", EMPTY", can, () -> hall.can(0));
+            due.is(title + ", fire", can ? "1" : Due.NOT_NOW, Due.outcome(() -> hall.fire(0)));
+            due.answers(title + ", behind", can ? give : tokens, () -> hall.tokens(0));
+        }
     }
 
     /** "if for each PLACE": each place of six bars each firing of eight. */

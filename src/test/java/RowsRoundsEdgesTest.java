@@ -426,6 +426,22 @@ public final class RowsRoundsEdgesTest {
         hall.fire(0);
         hall.fire(2);
         due.answers("keeps behind firings", true, hall::keeps);
+        keepsByWhatIsNow();
+    }
+
+    /** Rows and THE GRAPH of before would not fit to what is now. */
+    private static void keepsByWhatIsNow() {
+        MarkingHall hall = Nets.with(1, 3, 0);
+        for (int give : new int[] {1, 2, 3, 1}) {
+            Nets.moves(hall, 0, 0, 1, 1, give);
+            due.answers("keeps by weights of " + give, true, hall::keeps);
+            due.answers("rows of " + give, give, () -> hall.row(0, 0));
+            due.answers("markings of " + give, 4, () -> hall.graph(0));
+        }
+        hall.fire(0);
+        due.answers("keeps behind a firing", true, hall::keeps);
+        hall.place(5);
+        due.answers("keeps behind a new place", true, hall::keeps);
     }
 
     /** Tokens between two places, and a third place that grows: 31 markings for each number that it comes to. */
