@@ -580,7 +580,7 @@ public final class MarkingHall {
 
         private void expand(int from) {
             int doable = 0;
-            for (int f = 0; f < net.firings && !tooGreat; f++) {
+            for (int f = 0; f < MOST_FIRINGS && f < net.firings && !tooGreat; f++) {
                 int edge = from * MOST_FIRINGS + f;
                 targets[edge] = NONE;
                 if (net.allows(found[from], f)) {
@@ -844,6 +844,7 @@ public final class MarkingHall {
         private final int[] loses;
         private final int[] gives;
         private final int[] least;
+        private int firings;
         private int count;
         private int shape;
 
@@ -861,7 +862,8 @@ public final class MarkingHall {
                 return;
             }
             shape = net.shape;
-            for (int f = 0; f < net.firings; f++) {
+            firings = Math.min(net.firings, MOST_FIRINGS);
+            for (int f = 0; f < firings; f++) {
                 takes[f] = net.placesWith(TAKE, f);
                 loses[f] = takes[f] | net.placesWith(EMPTY, f);
                 gives[f] = net.placesWith(GIVE, f);
@@ -881,7 +883,7 @@ public final class MarkingHall {
         }
 
         private boolean isSiphon(int set) {
-            for (int f = 0; f < net.firings; f++) {
+            for (int f = 0; f < firings; f++) {
                 if ((gives[f] & set) != 0 && (takes[f] & set) == 0) {
                     return false;
                 }
@@ -910,7 +912,7 @@ public final class MarkingHall {
         private int greatestTrap(int set) {
             int left = set;
             for (int pass = 0; pass < net.places; pass++) {
-                for (int f = 0; f < net.firings; f++) {
+                for (int f = 0; f < firings; f++) {
                     if ((gives[f] & left) == 0) {
                         left &= ~loses[f];
                     }
@@ -932,6 +934,7 @@ public final class MarkingHall {
         // and one entry further on.
         private final int[] here;
         private final int[] further;
+        private int markings;
         private int length;
 
         private Log(Net net, Graph reach) {
@@ -968,6 +971,7 @@ public final class MarkingHall {
         }
 
         private int leastCost() {
+            markings = Math.min(reach.count, MOST_MARKINGS);
             Arrays.fill(here, TOO_DEAR);
             here[0] = 0;
             for (int i = 0; i < length; i++) {
@@ -975,7 +979,7 @@ public final class MarkingHall {
                 goPast(entries[i]);
             }
             int least = TOO_DEAR;
-            for (int m = 0; m < reach.count; m++) {
+            for (int m = 0; m < markings; m++) {
                 least = Math.min(least, here[m]);
             }
             return least;
@@ -984,7 +988,7 @@ public final class MarkingHall {
         /** Firings besides, each for 1: by rising costs, so that each marking's cost stands before it is used. */
         private void doBesides() {
             for (int cost = 0; cost < length; cost++) {
-                for (int m = 0; m < reach.count; m++) {
+                for (int m = 0; m < markings; m++) {
                     if (here[m] == cost) {
                         offerBesides(m, cost + 1);
                     }
@@ -1003,10 +1007,10 @@ public final class MarkingHall {
 
         /** The next one is left out, for 1, or done, for nothing. */
         private void goPast(int firing) {
-            for (int m = 0; m < reach.count; m++) {
+            for (int m = 0; m < markings; m++) {
                 further[m] = here[m] + 1;
             }
-            for (int m = 0; m < reach.count; m++) {
+            for (int m = 0; m < markings; m++) {
                 int to = reach.target(m, firing);
                 if (to >= 0 && to < MOST_MARKINGS) {
                     further[to] = Math.min(further[to], here[m]);
