@@ -4,7 +4,6 @@ import java.lang.reflect.Modifier;
 import java.nio.charset.StandardCharsets;
 import java.nio.file.Files;
 import java.nio.file.Path;
-import java.util.ArrayList;
 import java.util.Comparator;
 import java.util.List;
 import java.util.regex.Matcher;
@@ -65,34 +64,28 @@ public final class ReadmeTest {
         due.is("the tests that README.md names", there, told);
     }
 
-    /** Runs the commands of the page one by one, in a copy of the project with the examples in Yours.java. */
+    /** Runs the commands of the page block by block, in a copy of the project with the examples in Yours.java. */
     private static void commandsAndExamples(String readme, Path root, Path room) throws IOException, InterruptedException {
         Path project = room.resolve("project");
         copy(root.resolve("src"), project.resolve("src"));
         copy(root.resolve("../shared/tests"), room.resolve("shared/tests"));
-        Files.writeString(project.resolve("Yours.java"), program(blocks(readme, "java")), StandardCharsets.UTF_8);
+        List<String> examples = blocks(readme, "java").stream().flatMap(String::lines)
+            .filter(line -> !line.isBlank()).collect(Collectors.toList());
+        Files.writeString(project.resolve("Yours.java"), program(examples), StandardCharsets.UTF_8);
         List<String> commands = blocks(readme, "sh");
         due.is("README.md tells commands", true, commands.size() > 1);
-        for (String command : commands) {
-            Process process = new ProcessBuilder("bash", "-c", command)
+        for (String block : commands) {
+            Process process = new ProcessBuilder("bash", "-e", "-c", block)
                 .directory(project.toFile()).redirectErrorStream(true).start();
             String said = new String(process.getInputStream().readAllBytes(), StandardCharsets.UTF_8);
-            due.is(command + " ended, saying " + said, 0, process.waitFor());
+            due.is(block + "ended, saying " + said, 0, process.waitFor());
         }
     }
 
-    /** The lines of all blocks of a language. */
+    /** All blocks of a language. */
     private static List<String> blocks(String readme, String language) {
-        List<String> lines = new ArrayList<>();
-        boolean inside = false;
-        for (String line : readme.split("\n")) {
-            if (line.startsWith("```")) {
-                inside = line.equals("```" + language);
-            } else if (inside && !line.isBlank()) {
-                lines.add(line);
-            }
-        }
-        return lines;
+        return Pattern.compile("(?ms)^```" + language + "\n(.*?)^```$").matcher(readme).results()
+            .map(found -> found.group(1)).collect(Collectors.toList());
     }
 
     /** A program that makes the calls of the examples, and ends with 1 if one does not do what stands behind it. */
