@@ -18,6 +18,10 @@ public final class RoomTest {
 
     public static void main(String[] args) {
         ThreadMXBean meter = (ThreadMXBean) ManagementFactory.getThreadMXBean();
+        if (!meter.isThreadAllocatedMemorySupported() || !meter.isThreadAllocatedMemoryEnabled()) {
+            System.out.println("this Java machine does not measure what a thread makes");
+            return;
+        }
         // The first rounds load what the measuring itself needs.
         for (int round = 0; round < 3; round++) {
             measure(meter, round);
